@@ -814,12 +814,10 @@ public final class FerryRounds {
             return early & late;
         }
 
-        // The banks below the bank: none stands ahead of its first place or behind its last one.
+        // What stands between the bank's first and last place stands nowhere else.
         int belowOf(int bank) {
             Row round = roundOf(bank);
-            int ahead = round.setOf(0, round.firstOf(bank) - 1);
-            int behind = round.setOf(round.lastOf(bank) + 1, round.length() - 1);
-            return round.setOfAll() & ~(ahead | behind);
+            return round.setOf(round.firstOf(bank), round.lastOf(bank));
         }
 
         int depthOf(int bank) {
@@ -967,7 +965,7 @@ public final class FerryRounds {
         boolean isSound() {
             for (int bank = 0; bank < weights.length(); bank++) {
                 if (banksWith(bank) != reached(bank, 0)
-                        || weightOfAll(belowOf(bank)) != weightOfAll(reachedBelow(bank))
+                        || belowOf(bank) != reachedBelow(bank)
                         || !leavesOverEachRope(bank)) {
                     return false;
                 }

@@ -534,6 +534,9 @@ public final class PromiseTests {
         x.join(1, 0);
         due("middle(1) without weights", x.middle(1), 0);
         due("middle of a bank alone", river(1, 9).middle(1), 1);
+        x = river(0, 1);
+        x.join(0, 1);
+        due("middle(0) of which nothing heavy is left", x.middle(0), 1);
         due("middle(3)", x.middle(3), NONE);
         due("middle(-1)", x.middle(-1), NONE);
     }
@@ -779,7 +782,13 @@ public final class PromiseTests {
         due("account(11)", x.account(11), BAD);
         due("account(-1)", x.account(-1), BAD);
         due("account(high)", x.account(HIGH), BAD);
-        due("account(8) of several parts", tree().account(8), 4);
+        due("account(8) of one part", tree().account(8), 4);
+        x = river(1, 2, 3);
+        x.join(1, 0);
+        due("account(8), the bank 0 is the deepest", x.account(8), 1);
+        x.join(2, 1);
+        due("account(8), the bank 0 is the deepest", x.account(8), 2);
+        due("partOf(1, 3)", x.partOf(1, 3), 2);
     }
 
     private static void p29IsWell() {
@@ -805,6 +814,9 @@ public final class PromiseTests {
             due("mean() of a row of " + (bank + 1), x.mean(),
                     Float.floatToIntBits((float) sums[bank] / (float) (bank + 1)));
         }
+        x = river(1, 2);
+        x.join(1, 0);
+        due("mean(), the bank 0 is no root", x.mean(), Float.floatToIntBits(0.5f));
         for (int banks = 2; banks <= 12; banks++) {
             FerryRounds star = river(new int[banks]);
             for (int joined = 1; joined < banks; joined++) {
@@ -844,6 +856,38 @@ public final class PromiseTests {
         due("account(0)", x.account(0), 6);
         due("join(1, 2) again", x.join(1, 2), 3);
         due("account(10)", x.account(10), 1);
+    }
+
+    // What can be asked, put together.
+    private static String all(FerryRounds x) {
+        StringBuilder all = new StringBuilder();
+        for (int what = 0; what < 9; what++) {
+            for (int bank = 0; bank < x.account(0); bank++) {
+                all.append(x.bankOf(bank, what)).append(' ');
+            }
+            all.append(x.account(what)).append(what == 8 ? "" : "; ");
+        }
+        for (int bank = 0; bank < x.account(0); bank++) {
+            all.append(", ").append(round(x, bank));
+        }
+        return all.toString();
+    }
+
+    private static void p31UndoOfEachChange() {
+        FerryRounds x = tree();
+        x.turn(2);
+        IntSupplier[] changes = {() -> x.bank(44), () -> x.weigh(0, 44), () -> x.join(1, 6), () -> x.cut(1, 0),
+            () -> x.turn(5), () -> x.rise(2, 7), () -> read(x, "j6~0;t3;c1~2;w4=1;u1-5;b3")};
+        String[] before = new String[changes.length];
+        for (int change = 0; change < changes.length; change++) {
+            before[change] = all(x);
+            due("change " + change + " goes well", changes[change].getAsInt() >= 0 ? 1 : 0, 1);
+            due("change " + change + " changes", all(x).equals(before[change]) ? 1 : 0, 0);
+        }
+        for (int change = changes.length - 1; change >= 0; change--) {
+            due("undo() of change " + change, x.undo(), change + 1);
+            due("all before change " + change, all(x), before[change]);
+        }
     }
 
     private static void p31UndoOnlyChanges() {
@@ -1015,6 +1059,7 @@ public final class PromiseTests {
         run("promise 29", PromiseTests::p29IsWell);
         run("promise 30", PromiseTests::p30Mean);
         run("promise 31", PromiseTests::p31Undo);
+        run("promise 31, each change", PromiseTests::p31UndoOfEachChange);
         run("promise 31, only changes", PromiseTests::p31UndoOnlyChanges);
         run("promise 31, many changes", PromiseTests::p31UndoAfterManyChanges);
         run("promise 32", PromiseTests::p32Save);
