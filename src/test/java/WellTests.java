@@ -77,6 +77,31 @@ public final class WellTests {
         round(x, 2)[3] = 1;
         due("a round that goes over a rope once", x, 0);
 
+        x = river();
+        System.arraycopy(new int[] {0, 1, 0, 2, 0}, 0, round(x, 2), 0, 5);
+        due("a round that does not begin with its root", x, 0);
+
+        x = new FerryRounds();
+        for (int bank = 0; bank < 4; bank++) {
+            x.bank(bank);
+        }
+        x.join(0, 3);
+        x.join(0, 2);
+        x.join(0, 1);
+        due("a round over three ropes of one bank", x, 1);
+        round(x, 0)[2] = 2;
+        due("a bank that stands twice on end", x, 0);
+
+        x = river();
+        ropes(x)[3] = 8;
+        due("a rope from a bank to itself", x, 0);
+
+        x = new FerryRounds();
+        x.bank(1);
+        x.bank(2);
+        ropes(x)[0] = 1;
+        due("a rope from the first bank to itself", x, 0);
+
         System.out.println(passed + " passed, " + failed + " failed");
         System.exit(failed == 0 ? 0 : 1);
     }
