@@ -1,100 +1,7 @@
 import java.util.function.IntSupplier;
 
 /** A test or more for each promise of the document: ordinary inputs, edges and wrong inputs. */
-public final class PromiseTests {
-    private static final int NONE = -1;
-    private static final int BAD = -2;
-    private static final int REFUSED = -3;
-    private static final int NOTHING = -4;
-    private static final int LOW = Integer.MIN_VALUE;
-    private static final int HIGH = Integer.MAX_VALUE;
-
-    private static String test = "";
-    private static boolean wrong;
-    private static int passed;
-    private static int failed;
-
-    private static void due(String call, long got, long want) {
-        if (got != want) {
-            wrong = true;
-            System.out.println(test + ": " + call + " answered " + got + ", due is " + want);
-        }
-    }
-
-    private static void due(String call, String got, String want) {
-        if (!got.equals(want)) {
-            wrong = true;
-            System.out.println(test + ": " + call + " wrote " + got + ", due is " + want);
-        }
-    }
-
-    private static FerryRounds river(int... weights) {
-        FerryRounds x = new FerryRounds();
-        for (int weight : weights) {
-            x.bank(weight);
-        }
-        return x;
-    }
-
-    // 3 - 1 - (2, 0 - 5 - 4) with the root 3: the round 3-1-2-1-0-5-4-5-0-1-3.
-    private static FerryRounds tree() {
-        FerryRounds x = river(10, 20, 30, 5, 15, 25);
-        x.join(1, 0);
-        x.join(1, 2);
-        x.join(3, 1);
-        x.join(4, 5);
-        x.join(0, 5);
-        return x;
-    }
-
-    private static void write(FerryRounds x, String text) {
-        for (int i = 0; i < text.length(); i++) {
-            x.append(text.charAt(i));
-        }
-    }
-
-    private static int read(FerryRounds x, String text) {
-        write(x, text);
-        return x.read();
-    }
-
-    private static String line(FerryRounds x) {
-        StringBuilder line = new StringBuilder();
-        for (int i = 0; x.sign(i) != NONE; i++) {
-            line.append((char) x.sign(i));
-        }
-        return line.toString();
-    }
-
-    private static String round(FerryRounds x, int bank) {
-        StringBuilder round = new StringBuilder();
-        for (int i = 0; x.inRound(bank, i) != NONE; i++) {
-            round.append(i == 0 ? "" : "-").append(x.inRound(bank, i));
-        }
-        return round.toString();
-    }
-
-    private static void dueReasons(FerryRounds x, int reason, int detail, int command) {
-        due("refusal(0)", x.refusal(0), reason);
-        due("refusal(1)", x.refusal(1), detail);
-        due("refusal(2)", x.refusal(2), command);
-    }
-
-    private static void run(String name, Runnable body) {
-        test = name;
-        wrong = false;
-        try {
-            body.run();
-        } catch (RuntimeException e) {
-            wrong = true;
-            System.out.println(name + ": threw " + e);
-        }
-        if (wrong) {
-            failed++;
-        } else {
-            passed++;
-        }
-    }
+public final class PromiseTests extends Checks {
 
     // ---- the constants, and promise 1
 
@@ -858,21 +765,6 @@ public final class PromiseTests {
         due("account(10)", x.account(10), 1);
     }
 
-    // What can be asked, put together.
-    private static String all(FerryRounds x) {
-        StringBuilder all = new StringBuilder();
-        for (int what = 0; what < 9; what++) {
-            for (int bank = 0; bank < x.account(0); bank++) {
-                all.append(x.bankOf(bank, what)).append(' ');
-            }
-            all.append(x.account(what)).append(what == 8 ? "" : "; ");
-        }
-        for (int bank = 0; bank < x.account(0); bank++) {
-            all.append(", ").append(round(x, bank));
-        }
-        return all.toString();
-    }
-
     private static void p31UndoOfEachChange() {
         FerryRounds x = tree();
         x.turn(2);
@@ -880,13 +772,13 @@ public final class PromiseTests {
             () -> x.turn(5), () -> x.rise(2, 7), () -> read(x, "j6~0;t3;c1~2;w4=1;u1-5;b3")};
         String[] before = new String[changes.length];
         for (int change = 0; change < changes.length; change++) {
-            before[change] = all(x);
+            before[change] = shape(x);
             due("change " + change + " goes well", changes[change].getAsInt() >= 0 ? 1 : 0, 1);
-            due("change " + change + " changes", all(x).equals(before[change]) ? 1 : 0, 0);
+            due("change " + change + " changes", shape(x).equals(before[change]) ? 1 : 0, 0);
         }
         for (int change = changes.length - 1; change >= 0; change--) {
             due("undo() of change " + change, x.undo(), change + 1);
-            due("all before change " + change, all(x), before[change]);
+            due("all before change " + change, shape(x), before[change]);
         }
     }
 
@@ -1066,7 +958,6 @@ public final class PromiseTests {
         run("promise 33", PromiseTests::p33Restore);
         run("promise 33, no banks", PromiseTests::p33RestoreOfNoBanks);
         run("errors", PromiseTests::errorsChangeNothing);
-        System.out.println(passed + " passed, " + failed + " failed");
-        System.exit(failed == 0 ? 0 : 1);
+        end();
     }
 }
