@@ -67,7 +67,6 @@ public final class EdgeQuestionTests extends Checks {
     // ---- promises 8 and 9
 
     private static void p08() {
-        dueNoSuchBankOfTwo("areJoined", (x, one, other) -> x.areJoined(one, other));
         dueOfPairs("areJoined", Checks::row, (x, one, other) -> x.areJoined(one, other), (x, one, other) -> 1);
         dueOfPairs("areJoined, star", Checks::star, (x, one, other) -> x.areJoined(one, other), (x, one, other) -> 1);
         dueOfPairs("areJoined, alone", () -> alone(12), (x, one, other) -> x.areJoined(one, other),
@@ -76,7 +75,6 @@ public final class EdgeQuestionTests extends Checks {
     }
 
     private static void p09() {
-        dueNoSuchBankOfTwo("areJoinedAgain", (x, one, other) -> x.areJoinedAgain(one, other));
         dueOfPairs("areJoinedAgain", Checks::row, (x, one, other) -> x.areJoinedAgain(one, other),
                 (x, one, other) -> 1);
         dueOfPairs("areJoinedAgain, star", Checks::star, (x, one, other) -> x.areJoinedAgain(one, other),
@@ -100,7 +98,6 @@ public final class EdgeQuestionTests extends Checks {
     // ---- promise 10
 
     private static void p10NoSuchWhat() {
-        dueNoSuchBank("bankOf", (x, bank) -> x.bankOf(bank, 0));
         for (int what : NO_WHATS) {
             due("bankOf(0, " + what + ")", row().bankOf(0, what), BAD);
         }
@@ -155,7 +152,6 @@ public final class EdgeQuestionTests extends Checks {
     // ---- promise 11
 
     private static void p11() {
-        dueNoSuchBank("belowAgain", (x, bank) -> x.belowAgain(bank));
         due("belowAgain of a bank alone", river(0, 99).belowAgain(1), 99);
         due("belowAgain of a bank without weight", alone(1).belowAgain(0), 0);
         dueOfBanks("belowAgain", Checks::row, (x, bank) -> x.belowAgain(bank),
@@ -171,7 +167,6 @@ public final class EdgeQuestionTests extends Checks {
     // ---- promise 12
 
     private static void p12() {
-        dueNoSuchBank("inRound", (x, bank) -> x.inRound(bank, 0));
         for (int place : NO_PLACES) {
             due("inRound(0, " + place + ")", row().inRound(0, place), NONE);
             due("inRound(0, " + place + ") alone", alone(1).inRound(0, place), NONE);
@@ -197,7 +192,6 @@ public final class EdgeQuestionTests extends Checks {
     // ---- promise 13
 
     private static void p13NoSuchWhat() {
-        dueNoSuchBank("partOf", (x, bank) -> x.partOf(bank, 4));
         for (int what : NO_WHATS) {
             due("partOf(0, " + what + ")", row().partOf(0, what), BAD);
         }
@@ -245,7 +239,6 @@ public final class EdgeQuestionTests extends Checks {
     // ---- promise 14
 
     private static void p14() {
-        dueNoSuchBankOfTwo("isRope", (x, one, other) -> x.isRope(one, other));
         dueOfPairs("isRope", Checks::row, (x, one, other) -> x.isRope(one, other),
                 (x, one, other) -> Math.abs(one - other) == 1 ? 1 : 0);
         dueOfPairs("isRope, star", Checks::star, (x, one, other) -> x.isRope(one, other),
@@ -256,7 +249,6 @@ public final class EdgeQuestionTests extends Checks {
     // ---- promise 15
 
     private static void p15() {
-        dueNoSuchBankOfTwo("isBelow", (x, one, other) -> x.isBelow(one, other));
         dueOfPairs("isBelow", Checks::row, (x, one, other) -> x.isBelow(one, other),
                 (x, one, other) -> one >= other ? 1 : 0);
         dueOfPairs("isBelow, turned", EdgeQuestionTests::turnedRow, (x, one, other) -> x.isBelow(one, other),
@@ -270,7 +262,6 @@ public final class EdgeQuestionTests extends Checks {
     // ---- promise 16
 
     private static void p16() {
-        dueNoSuchBankOfTwo("meet", (x, one, other) -> x.meet(one, other));
         dueOfPairs("meet", Checks::row, (x, one, other) -> x.meet(one, other),
                 (x, one, other) -> Math.min(one, other));
         dueOfPairs("meet, turned", EdgeQuestionTests::turnedRow, (x, one, other) -> x.meet(one, other),
@@ -295,7 +286,6 @@ public final class EdgeQuestionTests extends Checks {
             }
             due("way(0, 0, " + place + ") without banks", river().way(0, 0, place), NONE);
         }
-        dueNoSuchBankOfTwo("way", (x, one, other) -> x.way(one, other, -1));
     }
 
     private static void p17TwoParts() {
@@ -348,7 +338,6 @@ public final class EdgeQuestionTests extends Checks {
     // ---- promise 18
 
     private static void p18() {
-        dueNoSuchBankOfTwo("would", (x, one, other) -> x.would(one, other));
         dueOfPairs("would, of one part", Checks::row, (x, one, other) -> x.would(one, other),
                 (x, one, other) -> NOTHING);
         dueOfPairs("would, alone", () -> alone(12), (x, one, other) -> x.would(one, other),
@@ -384,7 +373,6 @@ public final class EdgeQuestionTests extends Checks {
     // ---- promise 19
 
     private static void p19() {
-        dueNoSuchBankOfTwo("wouldDiffer", (x, one, other) -> x.wouldDiffer(one, other));
         dueOfPairs("wouldDiffer, alone", () -> alone(12), (x, one, other) -> x.wouldDiffer(one, other),
                 (x, one, other) -> NOTHING);
         dueOfPairs("wouldDiffer", Checks::row, (x, one, other) -> x.wouldDiffer(one, other),
@@ -404,7 +392,6 @@ public final class EdgeQuestionTests extends Checks {
     // ---- promise 20
 
     private static void p20() {
-        dueNoSuchBank("middle", (x, bank) -> x.middle(bank));
         dueOfBanks("middle, alone", () -> alone(12), (x, bank) -> x.middle(bank), (x, bank) -> bank);
         dueOfBanks("middle, row", Checks::row, (x, bank) -> x.middle(bank), (x, bank) -> 8);
         dueOfBanks("middle, turned", EdgeQuestionTests::turnedRow, (x, bank) -> x.middle(bank), (x, bank) -> 8);
@@ -475,33 +462,54 @@ public final class EdgeQuestionTests extends Checks {
         due("ranked(1)", x.ranked(1), 3);
     }
 
+    // Each name begins with its promise.
+    private static void noSuchBank() {
+        run("promise 8: no such bank, for either", () -> dueNoSuchBankOfTwo("areJoined", FerryRounds::areJoined));
+        run("promise 9: no such bank, for either",
+                () -> dueNoSuchBankOfTwo("areJoinedAgain", FerryRounds::areJoinedAgain));
+        run("promise 10: no such bank", () -> dueNoSuchBank("bankOf", (x, bank) -> x.bankOf(bank, 0)));
+        run("promise 11: no such bank", () -> dueNoSuchBank("belowAgain", FerryRounds::belowAgain));
+        run("promise 12: no such bank", () -> dueNoSuchBank("inRound", (x, bank) -> x.inRound(bank, 0)));
+        run("promise 13: no such bank", () -> dueNoSuchBank("partOf", (x, bank) -> x.partOf(bank, 4)));
+        run("promise 14: no such bank, for either", () -> dueNoSuchBankOfTwo("isRope", FerryRounds::isRope));
+        run("promise 15: no such bank, for either", () -> dueNoSuchBankOfTwo("isBelow", FerryRounds::isBelow));
+        run("promise 16: no such bank, for either", () -> dueNoSuchBankOfTwo("meet", FerryRounds::meet));
+        run("promise 17: no such bank, for either",
+                () -> dueNoSuchBankOfTwo("way", (x, one, other) -> x.way(one, other, -1)));
+        run("promise 18: no such bank, for either", () -> dueNoSuchBankOfTwo("would", FerryRounds::would));
+        run("promise 19: no such bank, for either",
+                () -> dueNoSuchBankOfTwo("wouldDiffer", FerryRounds::wouldDiffer));
+        run("promise 20: no such bank", () -> dueNoSuchBank("middle", FerryRounds::middle));
+    }
+
     public static void main(String[] args) {
+        noSuchBank();
         run("questions change nothing", EdgeQuestionTests::nothingChanges);
-        run("promise 8: alone, in one part, no such bank", EdgeQuestionTests::p08);
-        run("promise 9: alone, in one part, no such bank", EdgeQuestionTests::p09);
+        run("promise 8: alone, and in one part", EdgeQuestionTests::p08);
+        run("promise 9: alone, and in one part", EdgeQuestionTests::p09);
         run("promises 8 and 9: after a cut", EdgeQuestionTests::p08p09AfterACut);
-        run("promise 10: no such bank, no such what", EdgeQuestionTests::p10NoSuchWhat);
+        run("promise 10: no such what, and NONE ahead of BAD", EdgeQuestionTests::p10NoSuchWhat);
         run("promise 10: a bank alone", EdgeQuestionTests::p10ABankAlone);
         run("promise 10: the longest round", EdgeQuestionTests::p10TheLongestRound);
         run("promise 10: 11 ropes", EdgeQuestionTests::p10ManyRopes);
         run("promise 10: the greatest numbers", EdgeQuestionTests::p10TheGreatest);
-        run("promise 11: alone, 12 banks, no such bank", EdgeQuestionTests::p11);
-        run("promise 12: places, no such bank", EdgeQuestionTests::p12);
-        run("promise 13: no such bank, no such what", EdgeQuestionTests::p13NoSuchWhat);
+        run("promise 11: alone, and 12 banks", EdgeQuestionTests::p11);
+        run("promise 12: no such place", EdgeQuestionTests::p12);
+        run("promise 13: no such what, and NONE ahead of BAD", EdgeQuestionTests::p13NoSuchWhat);
         run("promise 13: alone, and 12 banks", EdgeQuestionTests::p13LeastAndGreatest);
         run("promise 13: the first in the round", EdgeQuestionTests::p13TheFirstInTheRound);
-        run("promise 14: each two banks, no such bank", EdgeQuestionTests::p14);
-        run("promise 15: each two banks, no such bank", EdgeQuestionTests::p15);
-        run("promise 16: each two banks, no such bank", EdgeQuestionTests::p16);
+        run("promise 14: each two banks", EdgeQuestionTests::p14);
+        run("promise 15: each two banks", EdgeQuestionTests::p15);
+        run("promise 16: each two banks", EdgeQuestionTests::p16);
         run("promise 17: NONE ahead of NOTHING", EdgeQuestionTests::p17NoSuchBank);
         run("promise 17: NOTHING ahead of no such place", EdgeQuestionTests::p17TwoParts);
         run("promise 17: no such place", EdgeQuestionTests::p17NoSuchPlace);
         run("promise 17: to itself no ropes", EdgeQuestionTests::p17ToItself);
         run("promise 17: each place of each way", EdgeQuestionTests::p17EachPlace);
-        run("promise 18: each two banks, no such bank", EdgeQuestionTests::p18);
+        run("promise 18: each two banks", EdgeQuestionTests::p18);
         run("promises 18 and 19: without any turning", EdgeQuestionTests::p18WithoutAnyTurning);
         run("promise 19: each two banks, 0 and the greatest", EdgeQuestionTests::p19);
-        run("promise 20: alone, 12 banks, no such bank", EdgeQuestionTests::p20);
+        run("promise 20: alone, and 12 banks", EdgeQuestionTests::p20);
         run("promise 20: of several the lowest", EdgeQuestionTests::p20TheLowestOfSeveral);
         run("promise 21: places", EdgeQuestionTests::p21Places);
         run("promise 21: the order", EdgeQuestionTests::p21Order);

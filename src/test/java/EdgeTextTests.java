@@ -27,7 +27,6 @@ public final class EdgeTextTests extends Checks {
     }
 
     private static void p22() {
-        dueNoSuchBank("describe", (x, bank) -> x.describe(bank));
         FerryRounds x = alone(1);
         dueLine("the shortest", x, x.describe(0), "0$0:0+0");
         x = river(0, 0, 0, 0, 0, 0, 0, 0, 0, 9, 10, 99);
@@ -55,7 +54,6 @@ public final class EdgeTextTests extends Checks {
     }
 
     private static void p23() {
-        dueNoSuchBank("tell", (x, bank) -> x.tell(bank));
         FerryRounds x = alone(12);
         for (int bank = 0; bank < 12; bank++) {
             dueLine("a bank alone", x, x.tell(bank), "" + bank);
@@ -339,6 +337,21 @@ public final class EdgeTextTests extends Checks {
         }
     }
 
+    private static void p27AnotherCallThanRead() {
+        Calls[] calls = {x -> x.bank(0), x -> x.weigh(0, 1), x -> x.join(0, 0), x -> x.join(0, 1), x -> x.cut(0, 2),
+            x -> x.turn(0), x -> x.rise(0, 0)};
+        int[] reasons = {1, 5, 2, 3, 4, 7, 6};
+        for (String text : new String[] {"w5=50;w5=6", "t0", "w5=50;t12", "t0;", ""}) {
+            for (int call = 0; call < calls.length; call++) {
+                FerryRounds x = row();
+                read(x, text);
+                calls[call].accept(x);
+                due("refusal(0)", x.refusal(0), reasons[call]);
+                due("refusal(2) after read of '" + text + "'", x.refusal(2), NOTHING);
+            }
+        }
+    }
+
     private static void p27ReasonsStay() {
         FerryRounds x = row();
         read(x, "t1;c5~3");
@@ -475,9 +488,11 @@ public final class EdgeTextTests extends Checks {
     }
 
     public static void main(String[] args) {
-        run("promise 22: the shortest, the longest, no such bank", EdgeTextTests::p22);
+        run("promise 22: no such bank", () -> dueNoSuchBank("describe", FerryRounds::describe));
+        run("promise 22: the shortest and the longest", EdgeTextTests::p22);
         run("promises 22 and 23: an error leaves the line", EdgeTextTests::p22NoSuchBankLeavesTheLine);
-        run("promise 23: the shortest, the longest, no such bank", EdgeTextTests::p23);
+        run("promise 23: no such bank", () -> dueNoSuchBank("tell", FerryRounds::tell));
+        run("promise 23: the shortest and the longest", EdgeTextTests::p23);
         run("promise 24: indexes, empty at first", EdgeTextTests::p24);
         run("promise 24: the line stays", EdgeTextTests::p24TheLineStays);
         run("promise 25: from 32 to 126", EdgeTextTests::p25Codes);
@@ -493,6 +508,7 @@ public final class EdgeTextTests extends Checks {
         run("promise 27: no such what", EdgeTextTests::p27NoSuchWhat);
         run("promise 27: nothing was refused", EdgeTextTests::p27NothingWasRefused);
         run("promise 27: the last one counts", EdgeTextTests::p27TheLastOneCounts);
+        run("promise 27: NOTHING for another call than read", EdgeTextTests::p27AnotherCallThanRead);
         run("promise 27: reasons stay", EdgeTextTests::p27ReasonsStay);
         run("promise 28: no such what", EdgeTextTests::p28NoSuchWhat);
         run("promise 28: the greatest", EdgeTextTests::p28TheGreatest);

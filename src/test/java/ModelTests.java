@@ -1,7 +1,10 @@
 /** Long runs of calls, the same on FerryRounds and on NaiveRiver: every answer has to be the same. */
 public final class ModelTests {
-    private static final int CALLS = 512;
-    private static final int RUNS = 1500;
+    // Nothing is promised of more calls.
+    private static final int MOST_CALLS = 512;
+    // More than a text or a line takes, and what is asked at the end.
+    private static final int LEFT_AT_LEAST = 130;
+    private static final int RUNS = 10000;
     private static final int[] ODD = {
         Integer.MIN_VALUE, Integer.MIN_VALUE + 1, -101, -100, -99, -3, -2, -1, 12, 13, 23, 32, 70, 99,
         100, 126, 127, 255, 1 << 20, Integer.MAX_VALUE - 1, Integer.MAX_VALUE};
@@ -10,6 +13,7 @@ public final class ModelTests {
     private final FerryRounds real = new FerryRounds();
     private final NaiveRiver naive = new NaiveRiver();
     private final StringBuilder calls = new StringBuilder();
+    private int made;
     private final int banks;
 
     private ModelTests(long run) {
@@ -31,6 +35,7 @@ public final class ModelTests {
     }
 
     private boolean same(String call, int got, int want) {
+        made++;
         calls.append(call).append(" = ").append(got).append('\n');
         if (got != want) {
             System.out.println(calls + "due is " + want);
@@ -84,8 +89,10 @@ public final class ModelTests {
     }
 
     private boolean line() {
-        for (int i = -1; i < 70; i++) {
-            int got = real.sign(i);
+        int got = 0;
+        for (int i = 0; got != FerryRounds.NONE; i++) {
+            got = real.sign(i);
+            made++;
             if (got != naive.sign(i)) {
                 return same("sign(" + i + ")", got, naive.sign(i));
             }
@@ -153,30 +160,20 @@ public final class ModelTests {
         }
     }
 
-    // Everything that can be asked, so that no run ends with a fault that no call has shown.
-    private boolean allAlike() {
-        for (int a = -1; a <= banks; a++) {
-            for (int what = 0; what < 10; what++) {
-                if (!same("bankOf(" + a + ", " + what + ")", real.bankOf(a, what), naive.bankOf(a, what))
-                        || !same("partOf(" + a + ", " + what + ")", real.partOf(a, what), naive.partOf(a, what))) {
-                    return false;
-                }
-            }
-            for (int b = 0; b < banks; b++) {
-                if (!same("meet(" + a + ", " + b + ")", real.meet(a, b), naive.meet(a, b))
-                        || !same("way(" + a + ", " + b + ", -1)", real.way(a, b, -1), naive.way(a, b, -1))
-                        || !same("way(" + a + ", " + b + ", 1)", real.way(a, b, 1), naive.way(a, b, 1))) {
-                    return false;
-                }
-            }
-            if (!same("tell(" + a + ")", real.tell(a), naive.tell(a)) || !line()
-                    || !same("middle(" + a + ")", real.middle(a), naive.middle(a))
-                    || !same("ranked(" + a + ")", real.ranked(a), naive.ranked(a))
-                    || !same("account(" + a + ")", real.account(a), naive.account(a))) {
+    // So that no run ends with a fault that no call has shown.
+    private boolean endsAlike() {
+        for (int what = 0; what <= 10; what++) {
+            if (!same("account(" + what + ")", real.account(what), naive.account(what))) {
                 return false;
             }
         }
-        return true;
+        for (int bank = 0; bank < banks && made < MOST_CALLS - 2; bank++) {
+            if (!same("bankOf(" + bank + ", 8)", real.bankOf(bank, 8), naive.bankOf(bank, 8))
+                    || !same("bankOf(" + bank + ", 4)", real.bankOf(bank, 4), naive.bankOf(bank, 4))) {
+                return false;
+            }
+        }
+        return same("isWell()", real.isWell(), naive.isWell());
     }
 
     private boolean run() {
@@ -186,12 +183,12 @@ public final class ModelTests {
                 return false;
             }
         }
-        for (int call = 0; call < CALLS; call++) {
+        for (int call = 0; call < MOST_CALLS && made < MOST_CALLS - LEFT_AT_LEAST; call++) {
             if (!(below(5) < 2 ? change() : question())) {
                 return false;
             }
         }
-        return allAlike();
+        return endsAlike() && made <= MOST_CALLS;
     }
 
     public static void main(String[] args) {

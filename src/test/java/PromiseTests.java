@@ -765,20 +765,26 @@ public final class PromiseTests extends Checks {
         due("account(10)", x.account(10), 1);
     }
 
-    private static void p31UndoOfEachChange() {
+    private static FerryRounds changed(int changes) {
         FerryRounds x = tree();
         x.turn(2);
-        IntSupplier[] changes = {() -> x.bank(44), () -> x.weigh(0, 44), () -> x.join(1, 6), () -> x.cut(1, 0),
+        IntSupplier[] kinds = {() -> x.bank(44), () -> x.weigh(0, 44), () -> x.join(1, 6), () -> x.cut(1, 0),
             () -> x.turn(5), () -> x.rise(2, 7), () -> read(x, "j6~0;t3;c1~2;w4=1;u1-5;b3")};
-        String[] before = new String[changes.length];
-        for (int change = 0; change < changes.length; change++) {
-            before[change] = shape(x);
-            due("change " + change + " goes well", changes[change].getAsInt() >= 0 ? 1 : 0, 1);
-            due("change " + change + " changes", shape(x).equals(before[change]) ? 1 : 0, 0);
+        for (int change = 0; change < changes; change++) {
+            due("change " + change + " goes well", kinds[change].getAsInt() >= 0 ? 1 : 0, 1);
         }
-        for (int change = changes.length - 1; change >= 0; change--) {
-            due("undo() of change " + change, x.undo(), change + 1);
-            due("all before change " + change, shape(x), before[change]);
+        return x;
+    }
+
+    private static void p31UndoOfEachChange() {
+        for (int changes = 6; changes >= 0; changes--) {
+            String before = shape(changed(changes));
+            FerryRounds x = changed(7);
+            due("change " + changes + " changes", shape(changed(changes + 1)).equals(before) ? 1 : 0, 0);
+            for (int left = 7; left > changes; left--) {
+                due("undo()", x.undo(), left);
+            }
+            due("all before change " + changes, shape(x), before);
         }
     }
 
