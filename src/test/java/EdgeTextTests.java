@@ -278,6 +278,33 @@ public final class EdgeTextTests extends Checks {
         }
     }
 
+    // What stands behind the first command that fails is neither carried out nor refused.
+    private static void p26TheFirstThatFails() {
+        String[] bad = {"t9", "w9=1", "j9~0", "j0~9", "c9~0", "c0~9", "u9+1", "j9~9", "c9~9", "u9-0"};
+        String[] refused = {"t4", "w3=99", "j6~6", "j4~5", "c0~4", "u6+0"};
+        int[][] due = {{7, 4}, {5, 99}, {2, 6}, {3, 4}, {4, 0}, {6, 1}};
+        for (String first : bad) {
+            for (int kind = 0; kind < refused.length; kind++) {
+                String badFirst = "b9;" + first + ";" + refused[kind];
+                due("read of '" + badFirst + "'", busyRead(badFirst), BAD);
+                dueUntouched(badFirst, EdgeTextTests::textless, x -> read(x, badFirst));
+                String refusedFirst = "b9;" + refused[kind] + ";" + first;
+                due("read of '" + refusedFirst + "'", busyRead(refusedFirst), REFUSED);
+                dueUnchanged(refusedFirst, EdgeTextTests::textless, x -> read(x, refusedFirst));
+                FerryRounds x = textless();
+                read(x, refusedFirst);
+                dueReasons(x, due[kind][0], due[kind][1], 1);
+            }
+        }
+        FerryRounds x = river(1, 2);
+        due("read, nothing was refused before", read(x, "b9;t9;t0;j0~0"), BAD);
+        dueReasons(x, NOTHING, NOTHING, NOTHING);
+        due("read, two that are refused", read(x, "b9;t1;j0~0"), REFUSED);
+        dueReasons(x, 7, 1, 1);
+        due("read, two that are bad, then a refused one", read(x, "t9;u9+1;j0~0"), BAD);
+        dueReasons(x, 7, 1, 1);
+    }
+
     private static void p26WrongAheadOfRefused() {
         FerryRounds x = river(1, 2);
         due("refused, then wrong", read(x, "t0;t0;b"), -107);
@@ -504,6 +531,7 @@ public final class EdgeTextTests extends Checks {
         run("promise 26: the number of commands", EdgeTextTests::p26NumberOfCommands);
         run("promise 26: 12 banks and a 13th", EdgeTextTests::p26TwelveBanksAndAThirteenth);
         run("promise 26: all or none", EdgeTextTests::p26AllOrNone);
+        run("promise 26: the first command that fails", EdgeTextTests::p26TheFirstThatFails);
         run("promise 26: errors in their order", EdgeTextTests::p26WrongAheadOfRefused);
         run("promise 27: no such what", EdgeTextTests::p27NoSuchWhat);
         run("promise 27: nothing was refused", EdgeTextTests::p27NothingWasRefused);
